@@ -7,6 +7,7 @@ public final class LanguageTest {
         feeding();
         trimming();
         teaching();
+        teachingAnew();
         tokens();
         grammar();
         depth();
@@ -101,6 +102,33 @@ public final class LanguageTest {
         DESKS.due("teach", desk.teach() + " at " + desk.errorAt(), "0 at -1");
         DESKS.due("all anew", state(desk), "7 -1 -1 <1. 7\n> 0 1 0 0 0");
         DESKS.due("nothing is kept", desk.count(9), 0);
+    }
+
+    /** Nothing of a former library is left in a later one. */
+    private static void teachingAnew() {
+        ClauseDesk desk = new ClauseDesk();
+        String rich = "fact f=1;fact g=2;clause a optional 9 1 needs b bars c after d{def t use u ref b show f;}"
+                + "clause b optional 8 1{use v}clause c needs a bars b after a{'x'}clause d{}clause e{def w}";
+        String plain = "clause a{}clause b{ref a}clause c when 1<1{}";
+        for (int round = 0; round < 200; round++) {
+            Desks.tell(desk, rich);
+            DESKS.due("teach of a rich one", desk.teach(), 0);
+            DESKS.due("choices", desk.clause(0, 0) + " " + desk.clause(1, 0) + " " + desk.clause(2, 0), "-1 -1 -1");
+            DESKS.due("digest of a rich one", desk.digest(), Desks.taught(rich).digest());
+            desk.setFact(0, 50);
+            desk.choose(0, 1);
+            desk.choose(1, 0);
+            desk.choose(2, 0);
+            desk.keep();
+            if (round % 3 == 0) {
+                for (int i = 0; i < 3; i++) {
+                    Desks.tell(desk, plain);
+                    DESKS.due("teach of a plain one", desk.teach(), 0);
+                    DESKS.due("digest of a plain one", desk.digest(), Desks.taught(plain).digest());
+                    DESKS.due("advise of a plain one", desk.advise(), 0);
+                }
+            }
+        }
     }
 
     private static String state(ClauseDesk desk) {
@@ -219,6 +247,27 @@ public final class LanguageTest {
         right("clause a{points{}points{point{}point{points{point{}}}}}");
         error(1, "clause a{}^}");
         error(1, "clause a{points{point{}}^");
+        // What could follow elsewhere does not follow here.
+        error(1, "clause a when 1<1 ^clause b{}");
+        error(1, "clause a when ^clause b{}");
+        error(1, "clause a optional 1 ^clause b{}");
+        error(1, "clause a optional 1 1 needs ^clause b{}");
+        error(1, "clause a needs b ^fact c=1;clause b{}");
+        error(1, "clause a{show ^'x'}");
+        error(1, "clause a{show 1 ^'x'}");
+        error(1, "clause a{if ^'x'}");
+        error(1, "clause a{if 1<1 ^'x'}");
+        error(1, "clause a{if 1<1{}else ^'x'}");
+        error(1, "clause a{def ^ref b}clause b{}");
+        error(1, "clause a{points ^'x'}");
+        error(1, "clause a{points{point ^point{}}}");
+        error(1, "clause a{points{} ^point{}}");
+        error(1, "clause a when [1<1 ^{}");
+        error(1, "clause a when not ^{}");
+        error(1, "clause a{show (1^;);}");
+        error(1, "clause a{show -^;}");
+        error(1, "clause a{show min(^,1);}");
+        error(1, "clause a{show min(1,^);}");
         // An error 1 comes ahead of all others, wherever it stands.
         error(1, "fact a=1;fact a=1;clause b needs c{show d;}^x");
     }
@@ -253,6 +302,8 @@ public final class LanguageTest {
         error(1, "clause a when [[[[[[[[^[1<1]]]]]]]]]{}");
         error(1, "clause a when max(max(max(max(max(max(max(max(max^(1,1),1),1),1),1),1),1),1),1)<1{}");
         right("clause a when max(max(max(max(max(max(max(max(1,1),1),1),1),1),1),1),1)<1{}");
+        error(1, "clause a when min(1,min(1,min(1,min(1,min(1,min(1,min(1,min(1,^-1))))))))<1{}");
+        error(1, "clause a when min(1,min(1,min(1,min(1,min(1,min(1,min(1,min(^-1,1))))))))<1{}");
         right("clause a when min(1,min(1,min(1,min(1,min(1,min(1,min(1,min(1,1))))))))<1{}");
     }
 

@@ -224,7 +224,7 @@ public final class OracleTest {
         }
 
         String library() {
-            wrongNames = chance(0.15) ? 0.02 : 0;
+            wrongNames = chance(0.25) ? 0.04 : 0;
             deepest = chance(0.06) ? 9 : 1 + random.nextInt(4);
             terms = chance(0.08) ? 28 : 1 + random.nextInt(6);
             int factCount = chance(0.03) ? 11 : random.nextInt(5);
