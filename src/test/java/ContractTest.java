@@ -14,7 +14,7 @@ public final class ContractTest {
     }
 
     private static void written(String text, String due) {
-        DESKS.due("the contract of " + text, Desks.written(Desks.taught(text)), due);
+        DESKS.dueWritten(text, due);
     }
 
     private static void items() {
@@ -69,7 +69,7 @@ public final class ContractTest {
     }
 
     private static void bytes() {
-        ClauseDesk desk = Desks.taught("clause a{'xyz'}");
+        Desk desk = Desks.taught("clause a{'xyz'}");
         int[] due = {'1', '.', ' ', 'x', 'y', 'z', 10};
         DESKS.due("count(7)", desk.count(7), due.length);
         for (int i = 0; i < due.length; i++) {
@@ -81,13 +81,13 @@ public final class ContractTest {
         DESKS.dueIndex("byteAt(0) of nothing", desk, () -> desk.byteAt(0));
         // A long one: 67 strings of 40 bytes.
         String string = "'" + "abcdefghij".repeat(4) + "'";
-        ClauseDesk large = Desks.taught("clause a{" + string.repeat(67) + "}");
-        DESKS.due("bytes of a large one", large.count(7), 67 * 40 + 4);
-        DESKS.due("a large one", Desks.written(large), "1. " + "abcdefghij".repeat(268) + "\n");
+        String large = "clause a{" + string.repeat(67) + "}";
+        DESKS.due("bytes of a large one", Desks.taught(large).count(7), 67 * 40 + 4);
+        DESKS.dueWritten(large, "1. " + "abcdefghij".repeat(268) + "\n");
     }
 
     private static void conflicts(String text, String due) {
-        DESKS.due("the conflicts of " + text, Desks.found(Desks.taught(text)), due);
+        DESKS.dueFound(text, due);
     }
 
     private static void kinds() {
@@ -104,7 +104,7 @@ public final class ContractTest {
                 "5:2,0 5:0,0 8:2,0 8:2,1");
         conflicts("clause a{def v def u def v}clause b{use w def t}", "5:0,0 6:1,2 8:0,0 8:0,1 8:1,3");
 
-        ClauseDesk needing = Desks.taught("clause a needs b needs c needs b{}clause b{}clause c{}");
+        Desk needing = Desks.taught("clause a needs b needs c needs b{}clause b{}clause c{}");
         needing.choose(1, 0);
         DESKS.due("the conflicts with b dropped", Desks.found(needing), "2:0,1 2:0,1");
         DESKS.due("conflicts(2)", needing.conflicts(2), 2);
@@ -119,7 +119,7 @@ public final class ContractTest {
     }
 
     private static void orderOfConflicts() {
-        ClauseDesk desk = Desks.taught("fact price = 100; fact days = 5;"
+        Desk desk = Desks.taught("fact price = 100; fact days = 5;"
                 + "clause a when price > 50 needs b after c { 'A' show price; }"
                 + "clause b optional 3 1 bars c bars a { ref a ref d }"
                 + "clause c needs b needs b after b after a { def t use t }"
@@ -130,14 +130,14 @@ public final class ContractTest {
         desk.choose(1, 0);
         desk.choose(3, 0);
         DESKS.due("found then", Desks.found(desk), "2:4,3 7:4,0 2:0,1 3:0,2 2:2,1 2:2,1");
-        ClauseDesk mixed = Desks.taught("clause a after b needs c bars b{use v ref c use t def t use u def t def u}"
+        Desk mixed = Desks.taught("clause a after b needs c bars b{use v ref c use t def t use u def t def u}"
                 + "clause b after a after c{def w}clause c{}");
         mixed.choose(2, 0);
         DESKS.due("found in one clause", Desks.found(mixed), "1:0,1 2:0,2 3:0,1 6:0,0 4:0,2 7:0,1 7:0,2 5:0,1 8:1,3");
     }
 
     private static void mostConflicts() {
-        ClauseDesk desk = Desks.taught("clause a{" + "use t ".repeat(59) + "}clause b bars c bars c{def u}clause c{}");
+        Desk desk = Desks.taught("clause a{" + "use t ".repeat(59) + "}clause b bars c bars c{def u}clause c{}");
         DESKS.due("count(6)", desk.count(6), 60);
         DESKS.due("conflicts(6)", desk.conflicts(6), 59);
         DESKS.due("conflicts(1)", desk.conflicts(1), 1);
@@ -180,7 +180,7 @@ public final class ContractTest {
             all.append("{}");
         }
         fewest(all.toString(), 32767);
-        ClauseDesk desk = Desks.taught("clause a bars b bars c{}clause b bars c{}clause c{}clause d bars c bars a{}");
+        Desk desk = Desks.taught("clause a bars b bars c{}clause b bars c{}clause c{}clause d bars c bars a{}");
         DESKS.due("fewest", desk.fewest(), 5);
         desk.choose(0, 0);
         DESKS.due("fewest without a", desk.fewest(), 4);

@@ -10,72 +10,68 @@ public final class DraftsTest {
         DESKS.close();
     }
 
-    private static String changes(ClauseDesk desk) {
-        return desk.changes(0) + " " + desk.changes(1) + " " + desk.changes(2) + " " + desk.changes(3);
-    }
-
     private static void keeping() {
-        ClauseDesk desk = Desks.taught("fact f=5;clause a{show f;}clause b{ref c}clause c when f>1{'c'}clause d when f<1{'dd'}");
-        DESKS.due("changes at first", changes(desk), "3 0 0 0");
+        Desk desk = Desks.taught("fact f=5;clause a{show f;}clause b{ref c}clause c when f>1{'c'}clause d when f<1{'dd'}");
+        DESKS.due("changes at first", Desks.changes(desk), "3 0 0 0");
         DESKS.due("keep()", desk.keep(), 3);
         DESKS.due("count(9)", desk.count(9), 3);
-        DESKS.due("changes behind keep", changes(desk), "0 0 0 0");
+        DESKS.due("changes behind keep", Desks.changes(desk), "0 0 0 0");
         desk.setFact(0, 6);
-        DESKS.due("changes, a says 6", changes(desk), "0 0 1 0");
+        DESKS.due("changes, a says 6", Desks.changes(desk), "0 0 1 0");
         desk.setFact(0, 0);
-        DESKS.due("changes, c is out and d is in", changes(desk), "1 1 2 0");
+        DESKS.due("changes, c is out and d is in", Desks.changes(desk), "1 1 2 0");
         DESKS.due("count(9)", desk.count(9), 3);
         desk.setFact(0, 5);
-        DESKS.due("changes back", changes(desk), "0 0 0 0");
+        DESKS.due("changes back", Desks.changes(desk), "0 0 0 0");
         desk.choose(0, 0);
         // b says 2 then, where it said 3.
-        DESKS.due("changes without a", changes(desk), "0 1 1 0");
+        DESKS.due("changes without a", Desks.changes(desk), "0 1 1 0");
         desk.choose(1, 0);
         desk.choose(2, 0);
-        DESKS.due("changes without all", changes(desk), "0 3 0 0");
+        DESKS.due("changes without all", Desks.changes(desk), "0 3 0 0");
         DESKS.due("keep() of nothing", desk.keep(), 0);
-        DESKS.due("changes behind it", changes(desk), "0 0 0 0");
+        DESKS.due("changes behind it", Desks.changes(desk), "0 0 0 0");
         desk.setFact(0, 0);
-        DESKS.due("changes, d is in", changes(desk), "1 0 0 0");
+        DESKS.due("changes, d is in", Desks.changes(desk), "1 0 0 0");
         DESKS.dueIndex("changes(-1)", desk, () -> desk.changes(-1));
         DESKS.dueIndex("changes(4)", desk, () -> desk.changes(4));
         // The number of a clause in the contract is none of its bytes.
-        ClauseDesk numbers = Desks.taught("clause a{}clause b{'b'}");
+        Desk numbers = Desks.taught("clause a{}clause b{'b'}");
         numbers.keep();
         numbers.choose(0, 0);
-        DESKS.due("changes, b is the first", changes(numbers), "0 1 0 0");
+        DESKS.due("changes, b is the first", Desks.changes(numbers), "0 1 0 0");
         // Same length, other bytes; and other length.
-        ClauseDesk bytes = Desks.taught("fact f=1;clause a{'x'show f;'y'}clause b{if f>9{'xy'}else{'x'}}");
+        Desk bytes = Desks.taught("fact f=1;clause a{'x'show f;'y'}clause b{if f>9{'xy'}else{'x'}}");
         bytes.keep();
         bytes.setFact(0, 2);
-        DESKS.due("changes, one other byte", changes(bytes), "0 0 1 0");
+        DESKS.due("changes, one other byte", Desks.changes(bytes), "0 0 1 0");
         bytes.setFact(0, 10);
-        DESKS.due("changes, other lengths", changes(bytes), "0 0 2 0");
+        DESKS.due("changes, other lengths", Desks.changes(bytes), "0 0 2 0");
     }
 
     private static void moving() {
-        ClauseDesk desk = Desks.taught("clause a after e{}clause b{}clause c after x{}clause d{}clause e{}clause x{}");
+        Desk desk = Desks.taught("clause a after e{}clause b{}clause c after x{}clause d{}clause e{}clause x{}");
         // All: b d e a x c; without e: a b d x c; without x: b c d e a.
         desk.keep();
         desk.choose(4, 0);
-        DESKS.due("a first", changes(desk), "0 1 0 1");
+        DESKS.due("a first", Desks.changes(desk), "0 1 0 1");
         desk.choose(5, 0);
-        DESKS.due("a b c d", changes(desk), "0 2 0 2");
+        DESKS.due("a b c d", Desks.changes(desk), "0 2 0 2");
         desk.keep();
         desk.choose(4, -1);
-        DESKS.due("b c d e a", changes(desk), "1 0 0 1");
+        DESKS.due("b c d e a", Desks.changes(desk), "1 0 0 1");
         desk.choose(5, -1);
-        DESKS.due("b d e a x c", changes(desk), "2 0 0 2");
-        ClauseDesk round = Desks.taught("clause a after b after s{}clause b after c after s{}clause c after d after s{}"
+        DESKS.due("b d e a x c", Desks.changes(desk), "2 0 0 2");
+        Desk round = Desks.taught("clause a after b after s{}clause b after c after s{}clause c after d after s{}"
                 + "clause d after s{}clause s when 1<1{}clause t after a{}");
         round.keep();
         round.choose(1, 0);
         // Kept: d c b a t; now: a d c t.
-        DESKS.due("a d c t", changes(round), "0 1 0 1");
+        DESKS.due("a d c t", Desks.changes(round), "0 1 0 1");
     }
 
     private static void friction() {
-        ClauseDesk desk = Desks.taught("clause a{use t}clause b{}clause c{}");
+        Desk desk = Desks.taught("clause a{use t}clause b{}clause c{}");
         DESKS.due("friction", desk.friction(), 1.0 / 3);
         desk.choose(0, 0);
         DESKS.due("friction", desk.friction(), 0.0);
@@ -87,7 +83,7 @@ public final class DraftsTest {
     }
 
     private static void digest() {
-        ClauseDesk desk = Desks.taught("fact f=5;fact g=6;clause a{use t}clause b optional 7 3 bars a{def u}clause c when f<g{show -1;}");
+        Desk desk = Desks.taught("fact f=5;fact g=6;clause a{use t}clause b optional 7 3 bars a{def u}clause c when f<g{show -1;}");
         desk.keep();
         desk.choose(1, 1);
         desk.setFact(1, -6);

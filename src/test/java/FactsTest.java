@@ -20,16 +20,8 @@ public final class FactsTest {
         DESKS.close();
     }
 
-    private static String order(ClauseDesk desk) {
-        StringBuilder told = new StringBuilder();
-        for (int place = 1; place <= desk.count(5); place++) {
-            told.append((char) ('a' + desk.clauseAt(place)));
-        }
-        return told.toString();
-    }
-
     private static void facts() {
-        ClauseDesk desk = Desks.taught(LIBRARY);
+        Desk desk = Desks.taught(LIBRARY);
         DESKS.due("fact(0)", desk.fact(0), 100);
         DESKS.due("fact(1)", desk.fact(1), 5);
         DESKS.dueIndex("fact(2)", desk, () -> desk.fact(2));
@@ -44,15 +36,15 @@ public final class FactsTest {
         DESKS.dueIndex("setFact(2, 0)", desk, () -> desk.setFact(2, 0));
         DESKS.dueIndex("setFact(-1, 100000)", desk, () -> desk.setFact(-1, 100000));
         DESKS.dueIndex("setFact(2, 100000)", desk, () -> desk.setFact(2, 100000));
-        DESKS.due("order", order(desk), "bcde");
+        DESKS.due("order", Desks.order(desk), "bcde");
         DESKS.due("setFact(0, 50)", desk.setFact(0, 50), -99999);
-        DESKS.due("order", order(desk), "bcde");
+        DESKS.due("order", Desks.order(desk), "bcde");
         DESKS.due("setFact(0, 51)", desk.setFact(0, 51), 50);
-        DESKS.due("order", order(desk), "bdeac");
+        DESKS.due("order", Desks.order(desk), "bdeac");
     }
 
     private static void choices() {
-        ClauseDesk desk = Desks.taught(LIBRARY);
+        Desk desk = Desks.taught(LIBRARY);
         DESKS.due("choose(1, 0)", desk.choose(1, 0), -1);
         DESKS.due("choose(1, 1)", desk.choose(1, 1), 0);
         DESKS.due("choose(1, 1)", desk.choose(1, 1), 1);
@@ -66,7 +58,7 @@ public final class FactsTest {
     }
 
     private static void clauses() {
-        ClauseDesk desk = Desks.taught(LIBRARY);
+        Desk desk = Desks.taught(LIBRARY);
         desk.choose(4, 1);
         desk.choose(0, 0);
         // Contract: b c d e.
@@ -90,7 +82,7 @@ public final class FactsTest {
         DESKS.dueIndex("clause(-1, 0)", desk, () -> desk.clause(-1, 0));
         DESKS.dueIndex("clause(0, 9)", desk, () -> desk.clause(0, 9));
         DESKS.dueIndex("clause(0, -1)", desk, () -> desk.clause(0, -1));
-        ClauseDesk tenth = Desks.taught("clause x{ref l}" + "clause b{}clause c{}clause d{}clause e{}clause f{}clause g{}"
+        Desk tenth = Desks.taught("clause x{ref l}" + "clause b{}clause c{}clause d{}clause e{}clause f{}clause g{}"
                 + "clause h{}clause i{}clause j{}clause k{}clause l{ref x}");
         DESKS.due("clause(0, 8) with a ref to the 12th", tenth.clause(0, 8), 2);
         tenth.choose(11, 0);
@@ -99,27 +91,27 @@ public final class FactsTest {
     }
 
     private static void whatIsIn() {
-        ClauseDesk desk = Desks.taught(LIBRARY);
-        DESKS.due("all in", order(desk), "bdeac");
+        Desk desk = Desks.taught(LIBRARY);
+        DESKS.due("all in", Desks.order(desk), "bdeac");
         desk.choose(4, 0);
-        DESKS.due("without what e needs", order(desk), "bac");
+        DESKS.due("without what e needs", Desks.order(desk), "bac");
         desk.choose(3, 1);
-        DESKS.due("with d chosen, whose test does not hold", order(desk), "bdac");
+        DESKS.due("with d chosen, whose test does not hold", Desks.order(desk), "bdac");
         desk.choose(1, 0);
-        DESKS.due("with b dropped, which a and c need", order(desk), "dac");
+        DESKS.due("with b dropped, which a and c need", Desks.order(desk), "dac");
         desk.setFact(1, 6);
         desk.choose(3, -1);
-        DESKS.due("with d free, whose test holds: it is optional", order(desk), "ac");
+        DESKS.due("with d free, whose test holds: it is optional", Desks.order(desk), "ac");
         desk.choose(4, -1);
-        DESKS.due("with e free, whose test does not hold", order(desk), "ac");
+        DESKS.due("with e free, whose test does not hold", Desks.order(desk), "ac");
 
-        ClauseDesk chain = Desks.taught("clause a optional 1 1 needs b{}clause b when 1<1 needs c{}"
+        Desk chain = Desks.taught("clause a optional 1 1 needs b{}clause b when 1<1 needs c{}"
                 + "clause c when 1<1 needs d{}clause d when 1<1 needs a{}clause e when 1<1{}");
-        DESKS.due("a chain", order(chain), "");
+        DESKS.due("a chain", Desks.order(chain), "");
         chain.choose(3, 1);
-        DESKS.due("a chain, d chosen", order(chain), "abcd");
+        DESKS.due("a chain, d chosen", Desks.order(chain), "abcd");
         chain.choose(1, 0);
-        DESKS.due("a chain, d chosen and b dropped", order(chain), "ad");
+        DESKS.due("a chain, d chosen and b dropped", Desks.order(chain), "ad");
         DESKS.due("its conflicts", Desks.found(chain), "2:0,1");
 
         tests("1<2", "2<1", "1<1");
@@ -138,27 +130,27 @@ public final class FactsTest {
     }
 
     private static void tests(String holding, String failing, String failingToo) {
-        ClauseDesk desk = Desks.taught("fact f=3;clause a when " + holding + "{if " + holding + "{'y'}}clause b when "
+        Desk desk = Desks.taught("fact f=3;clause a when " + holding + "{if " + holding + "{'y'}}clause b when "
                 + failing + "{}clause c when " + failingToo + "{}clause d {if " + failing + "{'y'}else{'n'}}");
-        DESKS.due("what is in by " + holding + " and " + failing, order(desk), "ad");
+        DESKS.due("what is in by " + holding + " and " + failing, Desks.order(desk), "ad");
         DESKS.due("what is written by these", Desks.written(desk), "1. y\n2. n\n");
     }
 
     private static void order() {
-        DESKS.due("no after", order(Desks.taught("clause a{}clause b{}clause c{}")), "abc");
-        DESKS.due("after one", order(Desks.taught("clause a after c{}clause b{}clause c{}")), "bca");
-        DESKS.due("after two", order(Desks.taught("clause a after b after d{}clause b after c{}clause c{}clause d{}")), "cbda");
-        DESKS.due("a round", order(Desks.taught("clause a after c{}clause b after a{}clause c after b{}clause d{}")), "dabc");
-        DESKS.due("behind a round", order(Desks.taught("clause a after b after d{}clause b after c{}clause c after b{}clause d after c{}")), "abcd");
-        DESKS.due("two rounds", order(Desks.taught("clause a after b{}clause b after a{}clause c after d after a{}clause d after c{}")), "abcd");
-        ClauseDesk desk = Desks.taught("clause a after c{}clause b{}clause c after d{}clause d{}");
-        DESKS.due("after a chain", order(desk), "bdca");
+        DESKS.due("no after", Desks.order(Desks.taught("clause a{}clause b{}clause c{}")), "abc");
+        DESKS.due("after one", Desks.order(Desks.taught("clause a after c{}clause b{}clause c{}")), "bca");
+        DESKS.due("after two", Desks.order(Desks.taught("clause a after b after d{}clause b after c{}clause c{}clause d{}")), "cbda");
+        DESKS.due("a round", Desks.order(Desks.taught("clause a after c{}clause b after a{}clause c after b{}clause d{}")), "dabc");
+        DESKS.due("behind a round", Desks.order(Desks.taught("clause a after b after d{}clause b after c{}clause c after b{}clause d after c{}")), "abcd");
+        DESKS.due("two rounds", Desks.order(Desks.taught("clause a after b{}clause b after a{}clause c after d after a{}clause d after c{}")), "abcd");
+        Desk desk = Desks.taught("clause a after c{}clause b{}clause c after d{}clause d{}");
+        DESKS.due("after a chain", Desks.order(desk), "bdca");
         desk.choose(2, 0);
-        DESKS.due("after one that is not in", order(desk), "abd");
+        DESKS.due("after one that is not in", Desks.order(desk), "abd");
     }
 
     private static void places() {
-        ClauseDesk desk = Desks.taught("clause a after b{}clause b{}clause c when 1<1{}");
+        Desk desk = Desks.taught("clause a after b{}clause b{}clause c when 1<1{}");
         DESKS.due("clauseAt(1)", desk.clauseAt(1), 1);
         DESKS.due("clauseAt(2)", desk.clauseAt(2), 0);
         DESKS.dueIndex("clauseAt(0)", desk, () -> desk.clauseAt(0));
@@ -168,7 +160,7 @@ public final class FactsTest {
     }
 
     private static void terms() {
-        ClauseDesk desk = Desks.taught("fact f=1;clause a after c{use z def y if f<1{use x}else{def z def z}}"
+        Desk desk = Desks.taught("fact f=1;clause a after c{use z def y if f<1{use x}else{def z def z}}"
                 + "clause b when f<1{def y}clause c{def z use z use z}");
         // By their first def or use in the text: z, y, x. The contract is b (not in), c, a.
         int[][] due = {{3, 3, 2}, {1, 0, 0}, {0, 0, -1}};
@@ -184,7 +176,7 @@ public final class FactsTest {
                 DESKS.due("term(" + term + ", " + what + ") then", desk.term(term, what), then[term][what]);
             }
         }
-        ClauseDesk twice = Desks.taught("clause a{def t use t}clause b{def t}");
+        Desk twice = Desks.taught("clause a{def t use t}clause b{def t}");
         DESKS.due("term(0, 2) of two defs", twice.term(0, 2), 0);
         DESKS.due("term(0, 0) of two defs", twice.term(0, 0), 2);
         DESKS.dueIndex("term(3, 0)", desk, () -> desk.term(3, 0));

@@ -18,17 +18,16 @@ public final class LanguageTest {
         DESKS.close();
     }
 
-    /** The text without the sign ^ has the error at the place of that sign. */
     private static void error(int error, String text) {
-        DESKS.dueError(text.replace("^", ""), error, text.indexOf('^'));
+        DESKS.error(error, text);
     }
 
     private static void right(String text) {
-        DESKS.dueError(text, 0, -1);
+        DESKS.right(text);
     }
 
     private static void newDesk() {
-        ClauseDesk desk = new ClauseDesk();
+        Desk desk = new Desk();
         for (int what = 0; what <= 9; what++) {
             DESKS.due("count(" + what + ") of a new desk", desk.count(what), 0);
         }
@@ -49,7 +48,7 @@ public final class LanguageTest {
     }
 
     private static void feeding() {
-        ClauseDesk desk = new ClauseDesk();
+        Desk desk = new Desk();
         // "fact abc = 12345;   " with the highest byte of each number first.
         DESKS.due("feed", desk.feed(0x66616374, 0x20616263, 0x203d2031, 0x32333435, 0x3b202020), 20);
         DESKS.due("count(4)", desk.count(4), 20);
@@ -71,7 +70,7 @@ public final class LanguageTest {
     }
 
     private static void trimming() {
-        ClauseDesk desk = new ClauseDesk();
+        Desk desk = new Desk();
         DESKS.dueArgument("trim(1) of nothing", desk, () -> desk.trim(1));
         DESKS.due("trim(0) of nothing", desk.trim(0), 0);
         Desks.tell(desk, "clause a{}fact");
@@ -87,7 +86,7 @@ public final class LanguageTest {
     }
 
     private static void teaching() {
-        ClauseDesk desk = Desks.taught("fact f = 7; clause a { show f; } clause b optional 5 1 { 'x' }");
+        Desk desk = Desks.taught("fact f = 7; clause a { show f; } clause b optional 5 1 { 'x' }");
         desk.setFact(0, 8);
         desk.choose(1, 1);
         desk.keep();
@@ -106,11 +105,11 @@ public final class LanguageTest {
 
     /** Nothing of a former library is left in a later one. */
     private static void teachingAnew() {
-        ClauseDesk desk = new ClauseDesk();
+        Desk desk = new Desk();
         String rich = "fact f=1;fact g=2;clause a optional 9 1 needs b bars c after d{def t use u ref b show f;}"
                 + "clause b optional 8 1{use v}clause c needs a bars b after a{'x'}clause d{}clause e{def w}";
         String plain = "clause a{}clause b{ref a}clause c when 1<1{}";
-        for (int round = 0; round < 200; round++) {
+        for (int round = 0; round < 12; round++) {
             Desks.tell(desk, rich);
             DESKS.due("teach of a rich one", desk.teach(), 0);
             DESKS.due("choices", desk.clause(0, 0) + " " + desk.clause(1, 0) + " " + desk.clause(2, 0), "-1 -1 -1");
@@ -131,7 +130,7 @@ public final class LanguageTest {
         }
     }
 
-    private static String state(ClauseDesk desk) {
+    private static String state(Desk desk) {
         StringBuilder told = new StringBuilder();
         told.append(desk.fact(0)).append(' ').append(desk.clause(0, 0)).append(' ').append(desk.clause(1, 0));
         told.append(" <").append(Desks.written(desk)).append("> ").append(desk.count(9));
@@ -352,35 +351,27 @@ public final class LanguageTest {
         error(4, "clause a{show ^x;}clause a{}fact x=1;");
     }
 
-    private static String many(String text, int from, int count) {
-        StringBuilder all = new StringBuilder();
-        for (int i = from; i < from + count; i++) {
-            all.append(text.replace("#", "" + i));
-        }
-        return all.toString();
-    }
-
     private static void limits() {
-        String facts = many("fact f#=#;", 0, 10);
+        String facts = Desks.many("fact f#=#;", 0, 10);
         right(facts + "clause a{}");
         error(6, facts + "fact ^x=1;");
         error(2, facts + "fact ^f9=1;");
         error(6, facts + "fact ^x=1;fact f1=1;");
-        String clauses = many("clause c#{}", 0, 16);
+        String clauses = Desks.many("clause c#{}", 0, 16);
         right(clauses);
         error(6, clauses + "clause ^x{}");
         error(6, clauses + "clause ^x needs y{}");
         error(2, clauses + "clause ^c0{}");
         error(2, clauses + "clause ^c15 optional 1 1{}");
-        error(6, "clause a needs x{ref x}" + many("clause c#{}", 0, 15) + "clause ^x{}");
-        error(6, "clause a needs x{ref x}" + many("clause c#{}", 0, 15) + "clause ^c15{}" + many("clause d#{}", 0, 60) + "clause x{}");
-        String optional = many("clause c# optional 1 1{}", 0, 8);
+        error(6, "clause a needs x{ref x}" + Desks.many("clause c#{}", 0, 15) + "clause ^x{}");
+        error(6, "clause a needs x{ref x}" + Desks.many("clause c#{}", 0, 15) + "clause ^c15{}" + Desks.many("clause d#{}", 0, 60) + "clause x{}");
+        String optional = Desks.many("clause c# optional 1 1{}", 0, 8);
         right(optional + "clause a{}");
         error(6, optional + "clause ^x optional 1 1{}");
         error(6, optional + "clause a{}clause ^x when q<1 optional 1 1 needs z{}");
         error(2, optional + "clause ^c3 optional 1 1{}");
         error(2, optional + "clause ^c3{}");
-        String terms = "clause a{" + many("use t# ", 0, 12) + many("def t# ", 12, 12);
+        String terms = "clause a{" + Desks.many("use t# ", 0, 12) + Desks.many("def t# ", 12, 12);
         right(terms + "use t0 def t0 use t23 def t5}");
         error(6, terms + "use t0 use ^x}");
         error(6, terms + "def ^x}");
@@ -389,7 +380,7 @@ public final class LanguageTest {
     }
 
     private static void counting() {
-        ClauseDesk desk = Desks.taught("fact f=1;fact g=2;clause a{use t def u use t}clause b optional 7 9{}clause c when f<1{def v}"
+        Desk desk = Desks.taught("fact f=1;fact g=2;clause a{use t def u use t}clause b optional 7 9{}clause c when f<1{def v}"
                 + "clause d optional 30 4 {'d'}");
         desk.choose(1, 1);
         desk.choose(3, 1);

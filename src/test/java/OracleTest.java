@@ -6,10 +6,12 @@ import java.util.Random;
 public final class OracleTest {
     private static final int RUNS = 1500;
     private static final int ERRONEOUS = 12000;
+    /** A library is put on the tape by at most so many calls. */
+    private static final int CALLS_TO_PUT = 160;
 
     private final Random random;
     private final Desks desks;
-    private final ClauseDesk desk = new ClauseDesk();
+    private final Desk desk = new Desk();
     private final Oracle oracle = new Oracle();
     private final StringBuilder log = new StringBuilder();
     private boolean right = true;
@@ -108,7 +110,7 @@ public final class OracleTest {
 
     private void run() {
         int calls = 20 + random.nextInt(60);
-        for (int i = 0; i < calls && right; i++) {
+        for (int i = 0; i < calls && right && desk.callsLeft() > CALLS_TO_PUT; i++) {
             if (i == 0 || random.nextInt(40) == 0) {
                 String library = new Texts(random).library();
                 put(random.nextInt(6) == 0 ? mutated(library) : library);

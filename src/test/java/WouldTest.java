@@ -9,7 +9,7 @@ public final class WouldTest {
         DESKS.close();
     }
 
-    private static void would(ClauseDesk desk, int clause, int choice, String due) {
+    private static void would(Desk desk, int clause, int choice, String due) {
         long before = desk.digest();
         StringBuilder told = new StringBuilder();
         for (int what = 0; what <= 3; what++) {
@@ -20,7 +20,7 @@ public final class WouldTest {
     }
 
     private static void would() {
-        ClauseDesk desk = Desks.taught("clause a{'aa'ref b}clause b optional 7 3 needs c bars a{}clause c optional 1 9{use t}");
+        Desk desk = Desks.taught("clause a{'aa'ref b}clause b optional 7 3 needs c bars a{}clause c optional 1 9{use t}");
         would(desk, 0, -1, "1 1 0 7");
         would(desk, 0, 1, "1 1 0 7");
         would(desk, 0, 0, "0 0 0 0");
@@ -43,12 +43,12 @@ public final class WouldTest {
         DESKS.dueIndex("would(3, 2, 0)", desk, () -> desk.would(3, 2, 0));
         DESKS.dueArgument("would(0, 2, 0)", desk, () -> desk.would(0, 2, 0));
         DESKS.dueArgument("would(0, -2, 3)", desk, () -> desk.would(0, -2, 3));
-        ClauseDesk many = Desks.taught("clause a optional 1 1{" + "use t ".repeat(61) + "}");
+        Desk many = Desks.taught("clause a optional 1 1{" + "use t ".repeat(61) + "}");
         would(many, 0, 1, "1 60 0 65");
     }
 
     private static void advise(String text, int due) {
-        ClauseDesk desk = Desks.taught(text);
+        Desk desk = Desks.taught(text);
         long before = desk.digest();
         DESKS.due("advise of " + text, desk.advise(), due);
         DESKS.due("digest behind it", desk.digest(), before);
@@ -73,7 +73,7 @@ public final class WouldTest {
                 + "clause f optional 1 0{}clause g optional 1 0{}clause h{}clause i optional 1 0 bars a{}", 127);
         advise("clause a{" + "use t ".repeat(60) + "}clause b optional 9 1 bars a{}clause c optional 2 1{}", 4);
 
-        ClauseDesk desk = Desks.taught("clause a optional 5 1 needs c{}clause b optional 4 1 bars a{}clause c when 1<1{}");
+        Desk desk = Desks.taught("clause a optional 5 1 needs c{}clause b optional 4 1 bars a{}clause c when 1<1{}");
         DESKS.due("advise", desk.advise(), 1);
         desk.choose(2, 0);
         DESKS.due("advise without c", desk.advise(), 2);
@@ -86,7 +86,7 @@ public final class WouldTest {
         DESKS.due("advise with a", desk.advise(), 0);
         desk.choose(1, 1);
         DESKS.due("advise with a and b", desk.advise(), -1);
-        ClauseDesk facts = Desks.taught("fact f=1;clause a when f<1{}clause b optional 2 1 bars a{}");
+        Desk facts = Desks.taught("fact f=1;clause a when f<1{}clause b optional 2 1 bars a{}");
         DESKS.due("advise", facts.advise(), 2);
         facts.setFact(0, 0);
         DESKS.due("advise, a in", facts.advise(), 0);
@@ -94,14 +94,14 @@ public final class WouldTest {
         DESKS.due("advise, a dropped", facts.advise(), 2);
     }
 
-    private static void calmest(ClauseDesk desk, int fact, int low, int high, int due) {
+    private static void calmest(Desk desk, int fact, int low, int high, int due) {
         long before = desk.digest();
         DESKS.due("calmest(" + fact + ", " + low + ", " + high + ")", desk.calmest(fact, low, high), due);
         DESKS.due("digest behind it", desk.digest(), before);
     }
 
     private static void calmest() {
-        ClauseDesk desk = Desks.taught("fact f=7;fact g=3;clause a when f>g{use t use t}"
+        Desk desk = Desks.taught("fact f=7;fact g=3;clause a when f>g{use t use t}"
                 + "clause b when f*f>20{use t}clause c{if f<-3{use t}if g>2{use t}}");
         calmest(desk, 0, -20, 20, -3);
         calmest(desk, 0, -20, -4, -4);
@@ -127,9 +127,9 @@ public final class WouldTest {
         DESKS.dueArgument("calmest(0, least, greatest)", desk, () -> desk.calmest(0, Integer.MIN_VALUE, Integer.MAX_VALUE));
         DESKS.dueArgument("calmest(0, 0, least)", desk, () -> desk.calmest(0, 0, Integer.MIN_VALUE));
         // Those beyond the 60 that are told do not count.
-        ClauseDesk many = Desks.taught("fact f=1;clause a{" + "use t ".repeat(60) + "if f<1{use t}}");
+        Desk many = Desks.taught("fact f=1;clause a{" + "use t ".repeat(60) + "if f<1{use t}}");
         calmest(many, 0, 0, 1, 0);
-        ClauseDesk fewer = Desks.taught("fact f=1;clause a{" + "use t ".repeat(59) + "if f<1{use t}}");
+        Desk fewer = Desks.taught("fact f=1;clause a{" + "use t ".repeat(59) + "if f<1{use t}}");
         calmest(fewer, 0, 0, 1, 1);
     }
 }
