@@ -155,6 +155,8 @@ public final class AnswerEdgesTest {
     private static void fewestAsItIs() {
         // Without a nobody would need b, and a alone would be enough: no matter, each is as it is now.
         dueFewest("clause a needs b bars d{}clause b when 1<1 bars d bars c{}clause c{}clause d{}", 3);
+        // That another one needs it is no reason to stay.
+        dueFewest("clause a needs b{}clause b bars c{}clause c{}", 2);
         Desk desk = Desks.taught("clause a bars b needs c{ref x use t}clause b{}clause c when 1<1 bars b{}clause x when 1<1{}");
         EDGES.due("b goes", desk.fewest(), 2);
         desk.choose(2, 0);
@@ -266,6 +268,8 @@ public final class AnswerEdgesTest {
         EDGES.due("also c dropped, which is not optional", desk.advise(), 0);
         desk.choose(0, -1);
         EDGES.due("a free and b chosen", desk.advise(), 1);
+        // One that is not optional is not chosen, though its need would bring in both others.
+        dueAdvice("clause a when 1<1 needs b needs c{}clause b optional 5 0{}clause c optional 5 0{}", 6);
     }
 
     private static void adviseKinds() {
@@ -280,6 +284,7 @@ public final class AnswerEdgesTest {
         desk.choose(1, 0);
         EDGES.due("b dropped", desk.advise(), 0);
         // The other kinds do not matter.
+        dueAdvice("clause a optional 5 0{}clause b{ref x use t def u}clause x when 1<1{}", 1);
         dueAdvice("clause a optional 5 0 after b{ref x use t use u def u def u def v}clause b after a{}clause x when 1<1{}", 1);
     }
 
@@ -394,6 +399,11 @@ public final class AnswerEdgesTest {
         EDGES.due("calmest(0, -2, 0)", desk.calmest(0, -2, 0), -2);
         EDGES.due("fact(0)", desk.fact(0), -99999);
         EDGES.due("count(6)", desk.count(6), 3);
+        Desk chosen = Desks.taught("fact f=7;clause a optional 1 1{if f<7{use t}}clause b{use t}");
+        chosen.choose(0, 1);
+        chosen.choose(1, 0);
+        EDGES.due("calmest(0, 0, 9)", chosen.calmest(0, 0, 9), 7);
+        EDGES.due("the contract behind it", Desks.written(chosen), "1. \n");
         // Of several facts, the one that is told.
         Desk two = Desks.taught("fact f=1;fact g=1;clause a{if f<3{use t}if g<4{use t}}");
         EDGES.due("calmest(0, 0, 9)", two.calmest(0, 0, 9), 3);
@@ -498,6 +508,8 @@ public final class AnswerEdgesTest {
         EDGES.due("changes(2), one other byte", desk.changes(2), 1);
         desk.setFact(0, 8);
         EDGES.due("changes(2), a shorter one, and another first byte", desk.changes(2), 2);
+        desk.setFact(0, 1);
+        EDGES.due("changes(2), a shorter one that begins alike, and another", desk.changes(2), 2);
         desk.setFact(0, 100);
         EDGES.due("changes(2), longer ones", desk.changes(2), 2);
         desk.setFact(0, 10);
@@ -521,6 +533,17 @@ public final class AnswerEdgesTest {
         EDGES.due("changes(3) of the same", none.changes(3), 0);
         none.choose(0, 0);
         EDGES.due("changes(3) without the first", none.changes(3), 0);
+        Desk gap = Desks.taught("clause a{}clause b{}clause c{}");
+        gap.keep();
+        gap.choose(1, 0);
+        EDGES.due("changes(3) without one between two", gap.changes(3), 0);
+        // Without e, c that was the first comes behind two others; d stands behind all of them, as it did.
+        Desk third = Desks.taught("clause a after e{}clause b after e{}clause c{}clause d after e{}clause e after c{}");
+        third.keep();
+        EDGES.due("the order with e", Desks.order(third), "ceabd");
+        third.choose(4, 0);
+        EDGES.due("the order without e", Desks.order(third), "abcd");
+        EDGES.due("changes(3) of one moved back", third.changes(3), 1);
         // The dropped one turns two around.
         Desk two = Desks.taught("clause a after c{}clause b{}clause c{}");
         EDGES.due("the order", Desks.order(two), "bca");
@@ -560,6 +583,7 @@ public final class AnswerEdgesTest {
         EDGES.due("friction() of a new desk", new Desk().friction(), 0.0);
         EDGES.due("friction() of none in", Desks.taught("clause a when 1<1{use t}").friction(), 0.0);
         EDGES.due("friction() of no conflict", Desks.taught("clause a{}").friction(), 0.0);
+        EDGES.due("friction() of one by the one that is in", Desks.taught("clause a{def t}clause b when 1<1{}").friction(), 1.0);
         EDGES.due("friction() of one by one", Desks.taught("clause a{use t}").friction(), 1.0);
         EDGES.due("friction() of one by three", Desks.taught("clause a{use t}clause b{}clause c{}").friction(), 1.0 / 3);
         EDGES.due("friction() of two by three", Desks.taught("clause a{use t}clause b{use t}clause c{}").friction(), 2.0 / 3);

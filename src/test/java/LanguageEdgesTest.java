@@ -287,6 +287,7 @@ public final class LanguageEdgesTest {
         EDGES.right("fact f=1;");
         EDGES.right("clause a{}");
         EDGES.right("clause a{}fact f=1;clause b{}fact g=1;fact h=1;clause c{}clause d{}");
+        EDGES.error(1, "clause a{}fact f=1;clause b{}fact g=1;fact h=1;clause c{}clause d{}^x");
         EDGES.right("clause a{}clause b needs a{}clause c needs a bars a after a after b needs b bars b{}");
         EDGES.right("clause a{'x'}clause b{'x''y''z'}");
         EDGES.right("clause a{points{}points{point{}}points{point{}point{}point{}}}");
@@ -403,6 +404,10 @@ public final class LanguageEdgesTest {
         EDGES.error(1, "fact a=1;^a");
         EDGES.error(1, "fact a ^fact b=1;");
         EDGES.error(1, "clause a{}^{}");
+        EDGES.error(1, "clause a{points{^]}");
+        EDGES.error(1, "clause a{show ^+1;}");
+        EDGES.error(1, "clause a{show ^+;}");
+        EDGES.error(1, "clause a{show 1^(2);}");
         EDGES.error(1, "clause a{^fact b=1;}");
         EDGES.error(1, "clause a{ref b ^c ref d}clause b{}");
         EDGES.error(1, "clause a{show 1+^;show+;}");
@@ -425,6 +430,8 @@ public final class LanguageEdgesTest {
                 EDGES.dueError("fact a=1;\n" + sign + "fact b=1;", 1, 10);
                 EDGES.dueError("clause a{show 1" + sign + ";}", 1, 15);
                 EDGES.dueError("clause a{}  " + sign, 1, 12);
+                EDGES.dueError("clause " + sign + "{}", 1, 7);
+                EDGES.dueError("clause a{use " + sign + "}", 1, 13);
             }
         }
         EDGES.right("clause a{show 1;}");
@@ -473,6 +480,13 @@ public final class LanguageEdgesTest {
         EDGES.error(1, "clause" + " ".repeat(2994) + "^");
         EDGES.right("clause a{" + " ".repeat(2990) + "}");
         EDGES.error(1, AT_DEPTH_8 + "^");
+        String told = "fact f=1;clause b{}";
+        for (String token : ("clause a when not [ 1 < 2 ] and ( f ) >= - min ( 3 , 4 ) optional 5 6 needs b bars b after b "
+                + "{ 'x' ref b def t use t show 1 + 2 * f ; if f = 1 { } else { } points { point { } }").split(" ")) {
+            told += " " + token;
+            EDGES.error(1, told + "^");
+        }
+        EDGES.right(told + " }");
     }
 
     private static void tooDeep() {
@@ -571,6 +585,7 @@ public final class LanguageEdgesTest {
     private static void toldAhead() {
         EDGES.error(2, "fact a=1;fact ^a=1;");
         EDGES.error(2, "fact a=1;fact b=1;fact ^a=2;");
+        EDGES.error(2, "fact a=1;fact b=1;fact ^b=2;");
         EDGES.right("fact a=1;fact aa=1;fact a1=1;");
         EDGES.error(2, "clause a{}clause ^a{}");
         EDGES.error(2, "clause a{}clause b{}clause c{}clause ^b{}");
@@ -673,15 +688,15 @@ public final class LanguageEdgesTest {
     }
 
     private static void numbering() {
-        Desk desk = Desks.taught("fact z=3;clause y{use q def p}fact a=4;clause b{if 1<0{use o}def q def n}clause a{use p}fact m=5;");
+        Desk desk = Desks.taught("fact z=3;clause y{use q use q def p}fact a=4;clause b{if 1<0{use o}def q def n}clause a{use p}fact m=5;");
         EDGES.due("facts", desk.fact(0) + " " + desk.fact(1) + " " + desk.fact(2), "3 4 5");
-        EDGES.due("clauses", desk.clause(0, 8) + " " + desk.clause(1, 8) + " " + desk.clause(2, 8), "4 6 1");
+        EDGES.due("clauses", desk.clause(0, 8) + " " + desk.clause(1, 8) + " " + desk.clause(2, 8), "5 6 1");
         StringBuilder terms = new StringBuilder();
         for (int term = 0; term < desk.count(2); term++) {
             terms.append(desk.term(term, 0)).append(desk.term(term, 1)).append(' ');
         }
         // q, p, o (in a block that is not written), n.
-        EDGES.due("defs and uses of the terms", terms.toString(), "11 11 00 10 ");
+        EDGES.due("defs and uses of the terms", terms.toString(), "12 11 00 10 ");
         EDGES.dueIndex("fact(-1)", desk, () -> desk.fact(-1));
         EDGES.dueIndex("clause(-1, 0)", desk, () -> desk.clause(-1, 0));
         EDGES.dueIndex("term(-1, 0)", desk, () -> desk.term(-1, 0));

@@ -260,6 +260,7 @@ public final class ReckoningEdgesTest {
     private static void afterOneNotIn() {
         EDGES.dueOrder("clause a after b{}clause b when 1<1{}clause c{}", "ac");
         EDGES.dueOrder("clause a after b after c{}clause b optional 1 1{}clause c{}", "ca");
+        EDGES.dueOrder("clause a after b{}clause b optional 1 1{}clause c{}", "ac");
         Desk desk = Desks.taught("clause a after c{}clause b{}clause c{}");
         EDGES.due("all", Desks.order(desk), "bca");
         desk.choose(2, 0);

@@ -5,12 +5,17 @@ public final class StateEdgesTest {
     private static final Desks EDGES = new Desks("StateEdgesTest");
 
     public static void main(String[] args) {
+        use();
         tape();
         teaching();
         counting();
         facts();
         clauses();
         EDGES.close();
+    }
+
+    private static void use() {
+        EDGES.sentence("An object is used for at most 512 calls after it has been made", StateEdgesTest::lastCall);
     }
 
     private static void tape() {
@@ -58,6 +63,20 @@ public final class StateEdgesTest {
         EDGES.sentence("2 the clause of its first def that is shown, -1 if none is", StateEdgesTest::firstDef);
     }
 
+    // ---- the last call
+
+    private static void lastCall() {
+        Desk desk = Desks.taught(RICH);
+        while (desk.callsLeft() > 2) {
+            desk.setFact(0, desk.callsLeft() % 9);
+        }
+        desk.setFact(0, 8);
+        Desk other = Desks.taught(RICH);
+        other.setFact(0, 8);
+        EDGES.due("the 512th call, digest()", desk.digest(), other.digest());
+        EDGES.due("calls left", desk.callsLeft(), 0);
+    }
+
     // ---- the tape
 
     private static void newDesk() {
@@ -93,7 +112,8 @@ public final class StateEdgesTest {
     private static void bytesFed() {
         // One byte that begins no token, at each of the twenty places, all others blanks; with each sign of its number.
         for (int place = 0; place < 20; place++) {
-            for (int sign : new int[] {0, 127, 128, 255}) {
+            // Without their highest bit, the last three would be a blank, a line end, and a letter.
+            for (int sign : new int[] {0, 127, 128, 255, 128 + 32, 128 + 10, 128 + 'a'}) {
                 byte[] bytes = new byte[20];
                 Arrays.fill(bytes, (byte) ' ');
                 bytes[place] = (byte) sign;
@@ -171,6 +191,18 @@ public final class StateEdgesTest {
         Desks.tell(desk, RICH);
         EDGES.due("teach()", desk.teach(), 0);
         EDGES.due("all as on a new desk", desk.digest(), Desks.taught(RICH).digest());
+        Desks.tell(desk, RICH);
+        EDGES.due("teach()", desk.teach(), 0);
+        Desks.tell(desk, "clause a{}clause b{}clause c{}clause d{}");
+        EDGES.due("teach()", desk.teach(), 0);
+        EDGES.due("all as on a new desk", desk.digest(), Desks.taught("clause a{}clause b{}clause c{}clause d{}").digest());
+        // Six times one of 250 items: each is read as if it were the first.
+        Desk often = new Desk();
+        for (int i = 0; i < 6; i++) {
+            Desks.tell(often, "clause a{" + "'x'".repeat(250) + "}");
+            EDGES.due("teach()", often.teach(), 0);
+            EDGES.due("bytes of its contract", often.count(7), 254);
+        }
     }
 
     private static void factsAnew() {
@@ -349,6 +381,12 @@ public final class StateEdgesTest {
                 EDGES.due("the choice of another one", desk.clause(7, 0), -1);
                 before = choice;
             }
+        }
+        for (int clause = 0; clause < 16; clause++) {
+            EDGES.due("choose(" + clause + ", ..)", desk.choose(clause, clause % 3 - 1), -1);
+        }
+        for (int clause = 0; clause < 16; clause++) {
+            EDGES.due("the choice of " + clause, desk.clause(clause, 0), clause % 3 - 1);
         }
     }
 
