@@ -8,6 +8,13 @@ public final class LanguageEdgesTest {
     private static final String AT_DEPTH_8 = AT_DEPTH_7 + "if 1<1{";
     private static final String FROM_DEPTH_7 = "}}}}}}}";
     private static final String FROM_DEPTH_8 = "}" + FROM_DEPTH_7;
+    /** Sorts of tokens that stand in the same places; x, 7 and 'y' are a name, a number and a string. */
+    private static final String VALUE = " x 7 - ( min max ";
+    private static final String SINGLE = VALUE + "not [ ";
+    private static final String COMPARISON = " < > = <= >= ";
+    private static final String SIGN = " + - * / ";
+    private static final String LINK = " needs bars after { ";
+    private static final String ITEM = " 'y' ref def use show if points } ";
 
     public static void main(String[] args) {
         tape();
@@ -395,6 +402,10 @@ public final class LanguageEdgesTest {
         EDGES.right(AT_DEPTH_7 + "if[1<1]{}" + FROM_DEPTH_7);
         EDGES.right(AT_DEPTH_7 + "if not 1<1{}" + FROM_DEPTH_7);
         EDGES.right(AT_DEPTH_8 + "show 1-1*1/1+1;'x'use t def t ref b" + FROM_DEPTH_8 + "clause b{}");
+        // As much as can be open at once: at each depth both a sum, a product and a first value wait for the next depth.
+        String deepest = "2+3*max(1,".repeat(8) + "2+3*1" + ")".repeat(8);
+        EDGES.dueOrder("clause a when 1=2 or 1=1 and 39365=" + deepest + "{}", "a");
+        EDGES.dueOrder("clause a when 1=2 or 1=1 and 39364=" + deepest + "{}", "");
     }
 
     // ---- error 1
@@ -418,6 +429,97 @@ public final class LanguageEdgesTest {
         EDGES.error(1, AT_DEPTH_8 + "if 1<1^{}" + FROM_DEPTH_8);
         EDGES.error(1, AT_DEPTH_8 + "points^{}" + FROM_DEPTH_8);
         EDGES.error(1, AT_DEPTH_8 + "show min^(1,1);" + FROM_DEPTH_8);
+        followersOfHeads();
+        followersOfTests();
+        followersOfItems();
+    }
+
+    /** Of all tokens, those that follow are right behind the text, and each other one is wrong there. */
+    private static void dueFollowers(String text, String followers) {
+        String all = String.join(" ", Oracle.KEYWORDS) + " { } ( ) [ ] ; , + - * / < > = <= >= x 7 'y'";
+        for (String token : all.split(" ")) {
+            Desk desk = new Desk();
+            Desks.tell(desk, text + " " + token);
+            int end = text.length() + 1 + token.length();
+            // Names without a meaning are no error 1.
+            int place = desk.teach() == 1 ? desk.errorAt() : end;
+            boolean right = (" " + followers + " ").contains(" " + token + " ");
+            EDGES.due("place behind <" + text + "> and " + token, place, right ? end : text.length() + 1);
+        }
+    }
+
+    private static void followersOfHeads() {
+        for (String text : new String[] {"", "fact f = 1 ;", "clause a { }"}) {
+            dueFollowers(text, "fact clause");
+            EDGES.right(text);
+        }
+        dueFollowers("fact", "x");
+        dueFollowers("fact f", "=");
+        dueFollowers("fact f =", "7");
+        dueFollowers("fact f = 1", ";");
+        dueFollowers("clause", "x");
+        dueFollowers("clause a", "when optional" + LINK);
+        dueFollowers("clause a optional", "7");
+        dueFollowers("clause a optional 1", "7");
+        dueFollowers("clause a optional 1 2", LINK);
+        for (String link : new String[] {"needs", "bars", "after"}) {
+            dueFollowers("clause a " + link, "x");
+            dueFollowers("clause a " + link + " b", LINK);
+        }
+    }
+
+    private static void followersOfTests() {
+        String afterTest = "and or optional" + LINK;
+        for (String text : new String[] {"", " not", " [", " 1 < 2 and", " 1 < 2 or", " [ 1 < 2 ] and", " not 1 < 2 or"}) {
+            dueFollowers("clause a when" + text, SINGLE);
+            dueFollowers("clause a when" + text + " 1", COMPARISON + SIGN);
+        }
+        for (String sign : (COMPARISON + SIGN).trim().split(" +")) {
+            dueFollowers("clause a when 1 " + sign, VALUE);
+        }
+        dueFollowers("clause a when 1 < 2", SIGN + afterTest);
+        dueFollowers("clause a when not 1 < 2", SIGN + afterTest);
+        dueFollowers("clause a when 1 < 2 and 3 = 4", SIGN + afterTest);
+        dueFollowers("clause a when 1 < 2 or 3 = 4", SIGN + afterTest);
+        dueFollowers("clause a when [ 1 < 2", SIGN + "and or ]");
+        dueFollowers("clause a when [ 1 < 2 ]", afterTest);
+        dueFollowers("clause a when not [ 1 < 2 ]", afterTest);
+        dueFollowers("clause a when -", VALUE);
+        dueFollowers("clause a when (", VALUE);
+        dueFollowers("clause a when ( 1", SIGN + ")");
+        for (String text : new String[] {"- 1", "( 1 )", "f", "1 + 1", "1 * 1", "min ( 1 , 1 )", "max ( 1 , 1 )"}) {
+            dueFollowers("clause a when " + text, COMPARISON + SIGN);
+        }
+        for (String word : new String[] {"min", "max"}) {
+            dueFollowers("clause a when " + word, "(");
+            dueFollowers("clause a when " + word + " (", VALUE);
+            dueFollowers("clause a when " + word + " ( 1", SIGN + ",");
+            dueFollowers("clause a when " + word + " ( 1 ,", VALUE);
+            dueFollowers("clause a when " + word + " ( 1 , 2", SIGN + ")");
+        }
+    }
+
+    private static void followersOfItems() {
+        for (String text : new String[] {"", " 'x'", " ref b", " def t", " use t", " show 1 ;", " points { }", " if 1 < 2 { } else { }",
+            " points { point {", " points { point { } }", " if 1 < 2 {", " if 1 < 2 { } else {"}) {
+            dueFollowers("clause a {" + text, ITEM);
+        }
+        for (String word : new String[] {"ref", "def", "use"}) {
+            dueFollowers("clause a { " + word, "x");
+        }
+        dueFollowers("clause a { show", VALUE);
+        dueFollowers("clause a { show 1", SIGN + ";");
+        dueFollowers("clause a { show - f", SIGN + ";");
+        dueFollowers("clause a { if", SINGLE);
+        dueFollowers("clause a { if 1", COMPARISON + SIGN);
+        dueFollowers("clause a { if 1 < 2", SIGN + "and or {");
+        dueFollowers("clause a { if [ 1 < 2 ]", "and or {");
+        dueFollowers("clause a { if 1 < 2 { }", ITEM + "else");
+        dueFollowers("clause a { if 1 < 2 { } else", "{");
+        dueFollowers("clause a { points", "{");
+        dueFollowers("clause a { points {", "point }");
+        dueFollowers("clause a { points { point", "{");
+        dueFollowers("clause a { points { point { }", "point }");
     }
 
     private static void wrongBytes() {

@@ -325,6 +325,17 @@ public final class ReckoningEdgesTest {
             dueHolds(both.replace("#", "and"), left && right);
             dueHolds(both.replace("#", "or"), left || right);
         }
+        // Those that hold first; a test that holds is as good as any other one.
+        String[] holding = {"1<f", "f>1", "f=5", "5<=f", "f>=5", "not f<1", "[1<f]"};
+        String[] failing = {"f<1", "1>f", "f=4", "f<=4", "4>=f", "not 1<f", "[f<1]"};
+        for (int i = 0; i < holding.length; i++) {
+            for (int j = 0; j < holding.length; j++) {
+                dueHolds(holding[i] + " and " + holding[j], true);
+                dueHolds(holding[i] + " and " + failing[j], false);
+                dueHolds(failing[i] + " or " + holding[j], true);
+                dueHolds(failing[i] + " or " + failing[j], false);
+            }
+        }
     }
 
     private static void binding() {
