@@ -1,4 +1,9 @@
-/** What each call refuses, on both sides of each limit; which exception comes first; and that nothing is changed then. */
+import java.util.Arrays;
+
+/**
+ * What each call refuses, on both sides of each limit; which exception comes first; and that nothing is changed then, nor
+ * by calls that only ask.
+ */
 public final class RefusalsTest {
     private static final Desks EDGES = new Desks("RefusalsTest");
     private static final int LEAST = Integer.MIN_VALUE;
@@ -32,6 +37,8 @@ public final class RefusalsTest {
         drafts();
         EDGES.sentence("If several exceptions apply, the one that is named first is thrown.", RefusalsTest::firstNamed);
         EDGES.sentence("A method that throws an exception changes nothing.", RefusalsTest::nothingChanges);
+        EDGES.sentence("of several the least sum (nothing is changed); -1 if", RefusalsTest::adviceChangesNothing);
+        EDGES.sentence("Nothing is promised beyond the answers and state changes described above", RefusalsTest::asksChangeNothing);
         EDGES.close();
     }
 
@@ -235,5 +242,77 @@ public final class RefusalsTest {
         }
         EDGES.due("a desk behind all of them", probe(desk), probe(inTheMidst()));
         EDGES.due("the tape behind all of them", Desks.written(desk), "1. 1\n");
+    }
+
+    // ---- calls that only ask
+
+    private static void asked(String what, OnDesk call) {
+        askedBehind(what, desk -> "", call);
+    }
+
+    /** The call answers the same again and again, and behind it a desk is as one that was not asked. */
+    private static void askedBehind(String what, OnDesk ahead, OnDesk call) {
+        Desk desk = inTheMidst();
+        ahead.answer(desk);
+        Object first = call.answer(desk);
+        EDGES.due(what + " again", call.answer(desk), first);
+        EDGES.due(what + " once more", call.answer(desk), first);
+        Desk other = inTheMidst();
+        ahead.answer(other);
+        EDGES.due("a desk behind " + what, probe(desk), probe(other));
+    }
+
+    private static void adviceChangesNothing() {
+        for (int i = 0; i < 27; i++) {
+            int[] choices = {i / 9 - 1, i / 3 % 3 - 1, i % 3 - 1};
+            askedBehind("advise() with the choices " + Arrays.toString(choices),
+                    desk -> desk.choose(1, choices[0]) + desk.choose(2, choices[1]) + desk.choose(4, choices[2]), Desk::advise);
+        }
+        String text = "clause a optional 5 0{'a'}clause b optional 4 0 bars a{use t}clause c{use t}clause d optional 1 0 needs b{}";
+        Desk desk = Desks.taught(text);
+        desk.keep();
+        long before = desk.digest();
+        EDGES.due("advise()", desk.advise() + " " + desk.advise(), "1 1");
+        EDGES.due("digest() behind it", desk.digest(), before);
+        EDGES.due("the contract behind it", Desks.written(desk) + Desks.found(desk), "1. T\n6:2,0");
+        EDGES.due("the choices behind it", desk.choose(0, 1) + " " + desk.choose(1, 1) + " " + desk.choose(3, 1), "-1 -1 -1");
+        EDGES.due("advise() then", desk.advise() + " " + desk.advise(), "-1 -1");
+        EDGES.due("the contract then", Desks.written(desk) + Desks.found(desk), "1. a\n2. T\n3. T\n4. \n1:1,0 6:1,0 6:2,0");
+    }
+
+    private static void asksChangeNothing() {
+        asked("errorAt()", Desk::errorAt);
+        asked("fewest()", Desk::fewest);
+        asked("friction()", Desk::friction);
+        asked("digest()", Desk::digest);
+        askedFor("count", Desk::count, 0, 9);
+        askedFor("fact", Desk::fact, 0, FACTS - 1);
+        askedFor("clauseAt", Desk::clauseAt, 1, 4);
+        askedFor("byteAt", Desk::byteAt, 0, 5);
+        askedFor("conflicts", Desk::conflicts, 1, 8);
+        for (int what = 0; what <= 3; what++) {
+            int told = what;
+            // The clauses a and b have changed their places since they were kept.
+            askedBehind("changes(" + told + ")", desk -> desk.choose(0, 1) + desk.choose(2, 0), desk -> desk.changes(told));
+        }
+        for (int clause = 0; clause < CLAUSES; clause++) {
+            int of = clause;
+            askedFor("clause(" + of + ", ..)", (desk, what) -> desk.clause(of, what), 0, 8);
+            askedFor("would(" + of + ", 1, ..)", (desk, what) -> desk.would(of, 1, what), 0, 3);
+            askedFor("would(" + of + ", 0, ..)", (desk, what) -> desk.would(of, 0, what), 0, 3);
+        }
+        for (int what = 0; what < 3; what++) {
+            int told = what;
+            askedFor("term(.., " + told + ")", (desk, term) -> desk.term(term, told), 0, TERMS - 1);
+            askedFor("conflict(.., " + told + ")", (desk, index) -> desk.conflict(index, told), 0, 2);
+        }
+        askedFor("calmest(.., -20, 20)", (desk, fact) -> desk.calmest(fact, -20, 20), 0, FACTS - 1);
+    }
+
+    private static void askedFor(String what, OnNumber call, int first, int last) {
+        for (int number = first; number <= last; number++) {
+            int of = number;
+            asked(what + " of " + of, desk -> call.answer(desk, of));
+        }
     }
 }
